@@ -109,6 +109,17 @@ public final class RulesTest {
         return false;
     }
 
+    /** LANGUAGE.md 11: some sixty lines; a method begins and ends at the same indent. */
+    private static void methodsAreShort(String code) {
+        Matcher m = Pattern.compile("(?ms)^( +)(?:public|private)[^;={}]*\\([^;{}]*\\) \\{\n.*?^\\1\\}").matcher(code);
+        int methods = 0;
+        while (m.find()) {
+            methods++;
+            must(m.group().lines().count() <= 60, "short: " + m.group().lines().findFirst().orElse(""));
+        }
+        must(methods > 24, "methods were found: " + methods);
+    }
+
     private static void text(String source) {
         String code = source.replaceAll("(?s)/\\*.*?\\*/", "").replaceAll("//[^\n]*", "");
         Matcher m = Pattern.compile("\\b(throw|throws|try|catch|finally|synchronized|assert|import|package|"
@@ -116,6 +127,7 @@ public final class RulesTest {
         while (m.find()) {
             must(false, "the code is without " + m.group());
         }
+        methodsAreShort(code);
         must(code.chars().allMatch(sign -> sign < 128), "signs of 1 to 127 alone");
     }
 }
